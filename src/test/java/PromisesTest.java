@@ -162,6 +162,8 @@ public final class PromisesTest {
             due("feed of twenty", x.feed(0x20202020, 0x20202020, 0x20202020, 0x20202020, 0x20202020), 20 * i);
         }
         due("feed of ten", x.feed(0x20202020, 0x20200000, 0x20202020, 0, 0), 310);
+        due("feed of eleven", x.feed(0, 0x20, 0x20202020, 0x20202020, 0x20200000), NONE);
+        due("feed of eleven", x.feed(0x20202020, 0x20202020, 0, 0x20202000, 0), NONE);
         due("feed of eleven", x.feed(0x20202020, 0x20202020, 0x20202000, 0, 0), NONE);
         due("count(2)", x.count(2), 310);
         due("feed of ten", x.feed(0x20202020, 0x20202020, 0x20200000, 0, 0), 320);
@@ -303,6 +305,13 @@ public final class PromisesTest {
         fault(2, "a=" + "D(x)+".repeat(11) + "D(x)", NONE);
         fault(2, "a=" + "D(x)*".repeat(11) + "x*D(x)", 61);
         fault(2, "a=" + "x*".repeat(24) + "9999", 50);
+        fault(2, "a=1" + (char) 1, 3);
+        fault(2, "a=" + (char) 255, 2);
+        fault(2, "a=" + "C(".repeat(8) + "x" + ",x)".repeat(8), NONE);
+        fault(2, "a=" + "C(".repeat(9) + "x" + ",x)".repeat(9), 19);
+        fault(2, "a=" + "C(x,".repeat(9), 35);
+        fault(2, "a=" + "H(".repeat(9), 19);
+        fault(2, "a=" + "T9(".repeat(9), 28);
         fault(2, "a=1;b=2", 3);
         fault(2, "a=1;", 3);
     }
@@ -360,6 +369,9 @@ public final class PromisesTest {
         script(x, "b=3", 3);
         Texts.tell(x, "b=4");
         due("text(1)", x.text(1), NONE);
+        due("perform(4)", x.perform(4), NONE);
+        due("run(4, 0)", x.run(4, 0), HIDDEN);
+        due("target(4, 0)", x.target(4, 0), NONE);
         due("count(2)", x.count(2), 3);
         due("count(1)", x.count(1), 4);
     }
@@ -472,6 +484,23 @@ public final class PromisesTest {
         length(x, "a=C(T2(1),T3(0))", 6);
         length(x, "a=C(1,T1(0))", 12);
         length(x, "a=H(T5(x),T3(x),T4(x))", 3);
+        comes(x, "a=C(T1(2),x)", 2);
+        x = desk("sp29m24", "a=1/(1-x)", "b=x*a", "c=0");
+        String[] full = {"a+b", "a-b", "c*c", "c+c", "c/a", "a/a", "S(a)", "L(a)", "E(b)", "R(b)", "Q2(a)", "Q3(a)",
+            "C(a,b)", "C(c,b)", "C(a,c)", "H(a,b)", "b^2", "b^99", "a^99", "c^99", "T24(a)"};
+        for (String one : full) {
+            length(x, "d=" + one, 24);
+        }
+        length(x, "d=D(a)", 23);
+        length(x, "d=b/b", 23);
+        due("one of 0, to 24", x.one(2), NONE);
+        due("recur of 0, to 24", x.recur(2, 0), 0);
+        due("order of 0, to 24", x.order(2), 24);
+        due("alike, to 24", x.alike(0, 0), 24);
+        due("sums, to 24", x.sums(0, 23), 24);
+        due("solve, to 24", x.solve(1, 0, NONE, NONE, 0, 23), 0);
+        due("known in all", x.most(3), 72);
+        due("known in all, not 0", x.most(4), 47);
     }
 
     private static void reasons() {
@@ -907,6 +936,7 @@ public final class PromisesTest {
         due("solve from -1", x.solve(0, 1, 2, NONE, -1, 0), NONE);
         due("solve from 101", x.solve(0, 1, 2, NONE, 101, 0), NONE);
         due("solve from 102", x.solve(0, 1, 2, NONE, 102, 0), NONE);
+        due("solve, y from 101", x.solve(NONE, 1, NONE, NONE, 101, 0), NONE);
         due("solve, y y from 0", x.solve(NONE, NONE, 1, NONE, 0, 0), NONE);
         due("solve, y from 0", x.solve(NONE, 1, NONE, NONE, 0, 5), 0);
         due("solve, y from 0: length", x.solve(NONE, 1, NONE, NONE, 0, NONE), 8);
@@ -984,6 +1014,8 @@ public final class PromisesTest {
         due("one(1)", x.one(1), NONE);
         due("one(2)", x.one(2), 2);
         due("one(3)", x.one(3), NONE);
+        due("one of an order 99", desk("sp199", "a=2").one(0), 99);
+        due("one of an order 100", desk("sp101", "a=2").one(0), NONE);
         due("one of 2 by 127", desk("sp127", "a=2").one(0), 7);
         x = desk("sp2m24", "a=1+x", "b=T8(1+x)");
         due("one(0)", x.one(0), 32);
@@ -1071,6 +1103,13 @@ public final class PromisesTest {
         x = desk("s", "c=1", "f=2");
         due("most(1)", x.most(1), 2);
         due("most(2)", x.most(2), 2);
+        x = desk("s", "d=T1(2)", "e=T1(3)");
+        due("most(1)", x.most(1), 3);
+        due("most(2)", x.most(2), 3);
+        x = desk("s", "d=1+6*x");
+        x.cut(3, 1);
+        due("most(4) of what was cut", x.most(4), 1);
+        due("most(5) of what was cut", x.most(5), 1);
         due("most(2) of nothing but 0", desk("s", "c=1", "f=T1(0)").most(2), 5);
     }
 
