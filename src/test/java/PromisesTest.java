@@ -991,6 +991,9 @@ public final class PromisesTest {
             due("recur(7, " + i + ")", x.recur(7, i), i + 1);
         }
         due("recur(8, 0)", x.recur(8, 0), NONE);
+        for (int k = 0; k < 24; k++) {
+            due("recur of x^" + k, desk("sp2m24", "a=x^" + k).recur(0, 0), k < 12 ? k + 1 : NONE);
+        }
         due("recur(0, high)", x.recur(0, HIGH), NONE);
         due("recur(0, 0)", desk("s").recur(0, 0), NONE);
     }
