@@ -373,33 +373,33 @@ final class CallBounds {
         }
     }
 
-    /** What was worked out ahead leaves nothing behind, whatever it was. */
+    /** What was worked out ahead leaves nothing behind, whatever it was: each call is the first one behind another. */
     private static void noTrace() {
         String[] told = {"1/(2+x+3*x^2)", "(1+x)^9", "D(1/(1-x))", "S(T6(1/(1-x)))", "L(T6(1+5*x))", "E(3*x+x^2)",
             "R(2*x+x^2+5*x^3)", "Q2(4+x+x^2)", "Q5(3+x)", "T2(6+6*x)", "C(1/(1-x),2*x+x^2)", "H(1/(1-x),1/(1-2*x))", "x^3/x",
             "0", "x", "6"};
-        int[][] alone = new int[told.length][];
-        for (int i = 0; i < told.length; i++) {
-            alone[i] = worth(Ledger.desk("sp7m8"), told[i]);
-        }
-        for (int i = 0; i < told.length; i++) {
-            for (int j = 0; j < told.length; j++) {
+        for (String second : told) {
+            int[] alone = stepped(Ledger.desk("sp7m8"), second);
+            for (String first : told) {
                 SeriesDesk x = Ledger.desk("sp7m8", "b=0-1", "c=1");
-                worth(x, told[i]);
+                stepped(x, first);
+                Ledger.due(second + " behind " + first, Arrays.equals(stepped(x, second), alone), true);
                 x.solve(1, 2, NONE, NONE, 1, 7);
-                worth(x, told[i]);
-                Ledger.due(told[j] + " behind " + told[i], Arrays.equals(worth(x, told[j]), alone[j]), true);
+                Ledger.due(second + " behind SOLVE", Arrays.equals(stepped(x, second), alone), true);
+                for (int i = 0; i < alone.length; i++) {
+                    stepped(x, first);
+                    Texts.tell(x, "a=" + second);
+                    due("would(" + i + ") of " + second + " behind " + first, x.would(i), alone[i]);
+                }
             }
         }
     }
 
-    private static int[] worth(SeriesDesk x, String expression) {
-        Texts.tell(x, "a=" + expression);
-        int known = x.would(NONE);
-        due("it can be: " + expression, known > 0 ? 1 : 0, 1);
-        int[] row = new int[Math.max(known, 0)];
+    private static int[] stepped(SeriesDesk x, String expression) {
+        Ledger.does(x, "a=" + expression);
+        int[] row = new int[Math.max(x.known(0), 0)];
         for (int i = 0; i < row.length; i++) {
-            row[i] = x.would(i);
+            row[i] = Ledger.coefficient(x, 0, i);
         }
         return row;
     }

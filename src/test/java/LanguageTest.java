@@ -32,6 +32,7 @@ public final class LanguageTest {
         methodLengths(source);
         faceIsTheDocuments();
         classes();
+        neverThrows();
         room();
         System.out.println(wrong == 0 ? "the rules are kept" : wrong + " rules are broken");
         if (wrong != 0) {
@@ -129,6 +130,42 @@ public final class LanguageTest {
             must(fields <= 20, "twenty fields at most: " + type.getName());
             must(type == SeriesDesk.class || Modifier.isStatic(type.getModifiers()), "static: " + type.getName());
         }
+    }
+
+    /** Every call with odd arguments, in every state: only coefficient throws, and only what the document names. */
+    private static void neverThrows() throws Exception {
+        int[] odd = {Integer.MIN_VALUE, -1000000, -2, -1, 0, 1, 2, 7, 8, 24, 25, 320, 997, Integer.MAX_VALUE};
+        java.util.Random random = new java.util.Random(8);
+        for (Method method : SeriesDesk.class.getDeclaredMethods()) {
+            if (!Modifier.isPublic(method.getModifiers())) {
+                continue;
+            }
+            for (int round = 0; round < 400; round++) {
+                SeriesDesk x = stateOf(round % 4);
+                Object[] given = new Object[method.getParameterCount()];
+                for (int i = 0; i < given.length; i++) {
+                    int one = odd[random.nextInt(odd.length)];
+                    given[i] = method.getParameterTypes()[i] == long.class ? (Object) (long) one : (Object) one;
+                }
+                try {
+                    method.invoke(x, given);
+                } catch (java.lang.reflect.InvocationTargetException e) {
+                    boolean named = e.getCause().getClass() == java.util.NoSuchElementException.class;
+                    must(named && method.getName().equals("coefficient"), method.getName() + " throws " + e.getCause());
+                }
+            }
+        }
+    }
+
+    private static SeriesDesk stateOf(int sort) {
+        SeriesDesk x = new SeriesDesk();
+        String[] told = {"a=b*c;h=R(a)", "sp997m24", "a=996/(1-996*x)", "h=Q2(4+x)", "c=T1(0)", "b=a"};
+        for (int i = 0; i < told.length && sort > 0; i++) {
+            Texts.tell(x, told[i]);
+            int answer = i == 0 ? x.text(1) : i == 1 && sort > 1 ? x.text(0) : sort > 2 ? x.step() : 0;
+            must(answer >= 0 || sort < 3, "the state is made by " + told[i]);
+        }
+        return x;
     }
 
     /** A run of the dearest calls, measured: all of it must be a small part of 7.3 million elements. */
