@@ -147,6 +147,13 @@ final class AskBounds {
         solved(x, new int[] {2, 1, NONE, 3}, 1, 1, 1, 3, 12, 55, 273 % 101);
         solved(x, new int[] {NONE, 1, NONE, NONE}, 0, 0, 0, 0, 0, 0, 0);
         solved(x, new int[] {0, 1, NONE, NONE}, 1, 1, 1, 0, 0, 0, 0);
+        for (int most = 2; most <= 24; most++) {
+            SeriesDesk full = Ledger.desk("sp997m" + most, "a=0-1-x", "b=1/(1-x)", "c=1", "d=0");
+            Ledger.due("solve, to MOST", full.solve(0, 3, 3, 2, 1, NONE), most);
+            int last = full.solve(0, 1, NONE, NONE, 1, most - 1);
+            Ledger.due("solve, y = 1 - x x, the last place", last, most == 3 ? 996 : 0);
+            Ledger.due("solve, y y y = 1 + x", full.solve(0, NONE, NONE, 2, 1, 1), 665);
+        }
         Ledger.sentence("it must be so at the first place, and the derivative by y not 0 there.");
         int[] cube = {0, NONE, NONE, 1};
         for (int start = 0; start < 101; start++) {

@@ -63,9 +63,13 @@ final class SeriesBounds {
             SeriesDesk x = Ledger.desk("sp29m" + most, "b=x", "c=T1(5)", "d=x");
             Ledger.due("the longest", x.known(1), most);
             Ledger.due("the shortest", x.known(2), 1);
-            for (String full : new String[] {"b*b", "S(b)", "b^99", "0*0", "C(b,b)", "T24(b)", "c^0", "R(b)"}) {
+            for (String full : new String[] {"b*b", "S(b)", "b^99", "0*0", "C(b,b)", "T24(b)", "c^0", "R(b)", "b+b", "b-b",
+                "1/(1-b)", "b/(1-b)", "L(1+b)", "E(b)", "Q2(4+b)", "Q9(1+b)", "H(b,b)", "R(b/(1-b))", "C(1/(1-b),b/(1-b))"}) {
                 length(x, full, most);
             }
+            length(x, "b/b", most - 1);
+            length(x, "b^2/b", most - 1);
+            length(x, "D(b)", most - 1);
             Ledger.due("cut(3, 1)", x.cut(3, 1), most);
             Ledger.due("cut(3, 0)", x.cut(3, 0), NONE);
             Ledger.due("known(3)", x.known(3), 1);
