@@ -5,13 +5,14 @@ public final class BoundariesTest {
 
     public static void main(String[] args) throws Exception {
         Ledger.open();
+        FrontBounds.all();
         TextBounds.all();
         SeriesBounds.all();
         ActBounds.all();
         AskBounds.all();
         CallBounds.all();
         Refusals.all();
-        if (!Ledger.close("Terms", "Not promised")) {
+        if (!Ledger.close("What it is", "Not promised")) {
             System.exit(1);
         }
     }

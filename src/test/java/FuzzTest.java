@@ -9,6 +9,7 @@ public final class FuzzTest {
     private static final int[] ODD = {Integer.MIN_VALUE, -1000000, -2, -1, 8, 9, 24, 25, 320, 997, Integer.MAX_VALUE};
 
     private final Random random;
+    private final Expressions expressions;
     private final SeriesDesk desk = new SeriesDesk();
     private final Model model = new Model();
     private final List<String> calls = new ArrayList<>();
@@ -17,6 +18,7 @@ public final class FuzzTest {
 
     private FuzzTest(long seed) {
         random = new Random(seed);
+        expressions = new Expressions(random);
     }
 
     public static void main(String[] args) {
@@ -107,73 +109,12 @@ public final class FuzzTest {
         return b.toString();
     }
 
-    private String register() {
-        return String.valueOf((char) ('a' + (below(3) == 0 ? below(8) : below(4))));
-    }
-
-    private String number(int bound) {
-        return String.valueOf(below(4) == 0 ? below(bound) : below(Math.min(bound, 4)));
-    }
-
-    /** An expression that often can be, as its kinds ask of what stands in them. */
-    private String expression(int depth) {
-        if (depth <= 0) {
-            int sort = below(6);
-            return sort == 0 ? number(1000) : sort < 3 ? "x" : register();
-        }
-        switch (below(18)) {
-            case 0:
-                return expression(depth - 1) + "+" + expression(depth - 1);
-            case 1:
-                return expression(depth - 1) + "-" + expression(depth - 1);
-            case 2:
-                return "(" + expression(depth - 1) + ")*(" + expression(depth - 1) + ")";
-            case 3:
-                return expression(depth - 1) + "/(" + (1 + below(5)) + "+x*" + expression(depth - 1) + ")";
-            case 4:
-                return "(" + expression(depth - 1) + ")^" + number(100);
-            case 5:
-                return "D(" + expression(depth - 1) + ")";
-            case 6:
-                return "S(" + expression(depth - 1) + ")";
-            case 7:
-                return "L(1+x*" + expression(depth - 1) + ")";
-            case 8:
-                return "E(x*" + expression(depth - 1) + ")";
-            case 9:
-                return "R(x*(" + (1 + below(3)) + "+x*" + expression(depth - 1) + "))";
-            case 10:
-                return "Q" + (2 + below(8)) + "(" + (1 + below(9)) + "+x*" + expression(depth - 1) + ")";
-            case 11:
-                return "T" + (1 + below(24)) + "(" + expression(depth - 1) + ")";
-            case 12:
-                return "C(" + expression(depth - 1) + ",x*" + expression(depth - 1) + ")";
-            case 13:
-                return "H(" + expression(depth - 1) + "," + expression(depth - 1) + ")";
-            case 14:
-                return "(" + expression(depth - 1) + ")/(x" + (below(2) == 0 ? "^" + below(4) : "*" + register()) + ")";
-            case 15:
-                return "DSLER".charAt(below(5)) + "(" + expression(depth - 1) + ")";
-            case 16:
-                return expression(depth - 1) + "*" + expression(0) + "/" + expression(0);
-            default:
-                return "C(" + expression(depth - 1) + "," + expression(depth - 1) + ")";
-        }
-    }
-
-    private String row(int n, String between) {
-        StringBuilder s = new StringBuilder();
-        for (int i = 0; i < n; i++) {
-            s.append(i == 0 ? "" : between).append(expression(0));
-        }
-        return s.toString();
-    }
-
     private String oneStep() {
         int sort = below(24);
-        String told = sort == 0 ? row(22 + below(5), "+") : sort == 1 ? "H(" + row(1 + below(7), ",") + ")"
-            : sort == 2 ? "(".repeat(6 + below(4)) + "x" + ")".repeat(6 + below(4)) : expression(below(4));
-        return register() + "=" + told;
+        String told = sort == 0 ? expressions.row(22 + below(5), "+")
+            : sort == 1 ? "H(" + expressions.row(1 + below(7), ",") + ")"
+            : sort == 2 ? "(".repeat(6 + below(4)) + "x" + ")".repeat(6 + below(4)) : expressions.any(below(4));
+        return expressions.register() + "=" + told;
     }
 
     private String script(int steps) {

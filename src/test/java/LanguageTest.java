@@ -32,6 +32,7 @@ public final class LanguageTest {
         methodLengths(source);
         faceIsTheDocuments();
         classes();
+        depths();
         neverThrows();
         room();
         System.out.println(wrong == 0 ? "the rules are kept" : wrong + " rules are broken");
@@ -130,6 +131,17 @@ public final class LanguageTest {
             must(fields <= 20, "twenty fields at most: " + type.getName());
             must(type == SeriesDesk.class || Modifier.isStatic(type.getModifiers()), "static: " + type.getName());
         }
+    }
+
+    /** Rules 8 and 11: what calls itself is the Reader alone, and no chain of other calls is deeper than eight. */
+    private static void depths() throws Exception {
+        CallGraph graph = CallGraph.of(SOURCE);
+        for (String method : graph.recursive()) {
+            must(method.startsWith("Reader.read"), "no recursion: " + method);
+        }
+        List<String> deepest = graph.deepest();
+        must(graph.size() > 100 && deepest.size() > 4, "calls were found: " + graph.size());
+        must(deepest.size() <= 8, "eight deep at most: " + deepest);
     }
 
     /** Every call with odd arguments, in every state: only coefficient throws, and only what the document names. */
