@@ -337,10 +337,10 @@ final class FrontBounds {
     private static void actsUndone() {
         Ledger.sentence("draws, a log, a status of what was refused, acts undone; images.");
         for (int round = 0; round < 8; round++) {
-            SeriesDesk x = Ledger.desk("sp7m6");
+            SeriesDesk x = Ledger.desk("sp7m6", "a=1+x", "d=T3(2+x^2)", "e=x", "h=3");
             List<List<Integer>> ahead = new ArrayList<>();
             long seed = RANDOM.nextLong();
-            for (int act = 0; ahead.size() < 12 && act < 60; act++) {
+            for (int act = 0; ahead.size() < 6 && act < 14; act++) {
                 List<Integer> seen = seen(x);
                 int acts = x.count(4);
                 x.years(1, seed + act);
@@ -348,13 +348,13 @@ final class FrontBounds {
                     ahead.add(seen);
                 }
             }
-            Ledger.due("acts that could be", ahead.size(), 12);
+            Ledger.due("acts that could be", ahead.size(), 6);
             Ledger.due("image()", x.image(), x.count(0));
             List<Integer> kept = seen(x);
             Ledger.due("a cut that is refused", x.cut(0, 0), NONE);
             Ledger.due("status in all", x.status(0) + x.status(1), 1);
             for (int i = ahead.size() - 1; i >= 0; i--) {
-                Ledger.due("undo()", x.undo(), i);
+                Ledger.due("undo()", x.undo(), i + 4);
                 Ledger.due("all is as it was", seen(x).equals(ahead.get(i)), true);
             }
             x.back();
